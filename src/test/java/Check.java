@@ -1,0 +1,20 @@
+/** Counts the answers that are not the ones due. */
+final class Check {
+    private int asked = 0;
+    private int wrong = 0;
+
+    void due(String call, int got, int want) {
+        asked++;
+        if (got != want) {
+            wrong++;
+            System.out.println(call + " answered " + got + ", due is " + want);
+        }
+    }
+
+    void finish() {
+        System.out.println(asked + " answers, " + wrong + " not as due");
+        if (wrong != 0 || asked == 0) {
+            System.exit(1);
+        }
+    }
+}
