@@ -286,6 +286,7 @@ public final class FluxModeEnumerator {
     /** The factor, 1 or -1, that makes the candidate the flow that counts; 0 if neither direction is a flow. */
     private int flowSign(int support) {
         int oneWay = support & ~twoWaySet;
+        // Without a one-way reaction both directions are flows, and the first value decides.
         int deciding = oneWay == 0 ? support & -support : oneWay;
         int negatives = 0;
         for (int j = 0; j < reactionCount; j++) {
@@ -417,7 +418,7 @@ public final class FluxModeEnumerator {
         return divisor == 0 ? 0 : value / divisor;
     }
 
-    /** The greatest common divisor, never negative; 0 divides nothing but 0, so that of 0 and x is x's size. */
+    /** The greatest common divisor, never negative; with 0 it is the size of the other number. */
     private static int commonDivisor(int first, int second) {
         int a = magnitude(first);
         int b = magnitude(second);
