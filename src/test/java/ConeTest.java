@@ -18,6 +18,7 @@ public final class ConeTest {
             Network network = Network.drawn(draw, 1 + round % 4, 6 + round % 3);
             compareModes(network);
             compareCuts(network);
+            compareDirections(network);
         }
         for (int round = 0; round < 300; round++) {
             compareModes(Network.drawn(draw, 1 + draw.below(4), 5 + draw.below(4)));
@@ -93,8 +94,53 @@ public final class ConeTest {
         }
     }
 
+    /** The rays of the cone hold both v and -v where both are flows, so that signs need no thought here. */
+    private static void compareDirections(Network network) {
+        List<int[]> minimal = minimalOf(network, 0);
+        int r = network.reactions;
+        FluxModeEnumerator x = network.build();
+        for (int a = 0; a < r; a++) {
+            int forward = 0;
+            int back = 0;
+            for (int[] v : minimal) {
+                forward = v[a] > 0 ? 1 : forward;
+                back = v[a] < 0 ? 1 : back;
+            }
+            CHECK.due(network + "carries(" + a + ", 1)", x.carries(a, 1), forward);
+            CHECK.due(network + "carries(" + a + ", -1)", x.carries(a, -1), back);
+            for (int b = 0; b < r; b++) {
+                compareYield(network, x, minimal, a, b);
+            }
+        }
+    }
+
+    private static void compareYield(Network network, FluxModeEnumerator x, List<int[]> minimal, int a, int b) {
+        int[] best = null;
+        for (int[] v : minimal) {
+            if (v[a] > 0 && (best == null || (long) v[b] * best[a] > (long) best[b] * v[a])) {
+                best = v;
+            }
+        }
+        int divisor = best == null ? 1 : Network.commonDivisor(best[a], best[b]);
+        int top = best == null ? 0 : best[b] / divisor;
+        int bottom = best == null ? 0 : best[a] / divisor;
+        CHECK.due(network + "yieldTop(" + a + ", " + b + ")", x.yieldTop(a, b), top);
+        CHECK.due(network + "yieldBottom(" + a + ", " + b + ")", x.yieldBottom(a, b), bottom);
+    }
+
     private static List<int[]> modesOf(Network network, int cut) {
         TreeMap<Integer, int[]> modes = new TreeMap<>();
+        for (int[] v : minimalOf(network, cut)) {
+            int support = Network.supportOf(v);
+            if (!modes.containsKey(support) || v[Integer.numberOfTrailingZeros(support)] > 0) {
+                modes.put(support, v);
+            }
+        }
+        return new ArrayList<>(modes.values());
+    }
+
+    private static List<int[]> minimalOf(Network network, int cut) {
+        List<int[]> minimal = new ArrayList<>();
         for (long[] ray : raysOf(network, cut)) {
             int[] v = new int[network.reactions];
             boolean isThereAndBack = false;
@@ -102,12 +148,11 @@ public final class ConeTest {
                 v[j] = (int) (ray[2 * j] - ray[2 * j + 1]);
                 isThereAndBack |= ray[2 * j] != 0 && ray[2 * j + 1] != 0;
             }
-            int support = Network.supportOf(v);
-            if (!isThereAndBack && (!modes.containsKey(support) || v[Integer.numberOfTrailingZeros(support)] > 0)) {
-                modes.put(support, v);
+            if (!isThereAndBack) {
+                minimal.add(v);
             }
         }
-        return new ArrayList<>(modes.values());
+        return minimal;
     }
 
     private static List<long[]> raysOf(Network network, int cut) {
