@@ -170,25 +170,11 @@ public final class FluxModeEnumerator {
     }
 
     public int yieldTop(int a, int b) {
-        int best = bestYield(a, b);
-        if (best < 0) {
-            return 0;
-        }
-        int top = yieldNumerator(best, a, b);
-        int bottom = yieldDenominator(best, a);
-        int divisor = commonDivisor(top, bottom);
-        return quotient(top, divisor);
+        return yieldPart(a, b, true);
     }
 
     public int yieldBottom(int a, int b) {
-        int best = bestYield(a, b);
-        if (best < 0) {
-            return 0;
-        }
-        int top = yieldNumerator(best, a, b);
-        int bottom = yieldDenominator(best, a);
-        int divisor = commonDivisor(top, bottom);
-        return quotient(bottom, divisor);
+        return yieldPart(a, b, false);
     }
 
     private boolean isSubstance(int s) {
@@ -224,6 +210,18 @@ public final class FluxModeEnumerator {
             }
         }
         return true;
+    }
+
+    /** The numerator or the denominator of the greatest quotient; 0 if there is none. */
+    private int yieldPart(int a, int b, boolean isTop) {
+        int best = bestYield(a, b);
+        if (best < 0) {
+            return 0;
+        }
+        int top = yieldNumerator(best, a, b);
+        int bottom = yieldDenominator(best, a);
+        int divisor = commonDivisor(top, bottom);
+        return quotient(isTop ? top : bottom, divisor);
     }
 
     /** The mode with the greatest quotient; -1 if a or b is not good or no minimal flow has v(a) > 0. */

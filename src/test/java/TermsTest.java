@@ -329,11 +329,14 @@ public final class TermsTest {
     /** Compares an object that got the call with a twin that did not. */
     private static void dueUnchanged(Supplier<FluxModeEnumerator> source, int substances, int reactions, Call call) {
         FluxModeEnumerator asked = source.get();
-        FluxModeEnumerator twin = source.get();
         call.ask(asked, "");
-        dueSame("questions after " + call.name,
-            Snapshot.ofQuestions(asked, substances, reactions), Snapshot.ofQuestions(twin, substances, reactions));
-        dueSame("ways after " + call.name, Snapshot.ofWays(asked, reactions), Snapshot.ofWays(twin, reactions));
+        dueSame("questions after " + call.name, Snapshot.ofQuestions(asked, substances, reactions),
+            Snapshot.ofQuestions(source.get(), substances, reactions));
+        // A new pair: a question that changes something would hide it by changing the twin too.
+        FluxModeEnumerator askedOnce = source.get();
+        call.ask(askedOnce, "");
+        dueSame("ways after " + call.name, Snapshot.ofWays(askedOnce, reactions),
+            Snapshot.ofWays(source.get(), reactions));
     }
 
     private static void dueSame(String name, List<String> got, List<String> want) {
