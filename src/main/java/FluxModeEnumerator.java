@@ -253,7 +253,8 @@ public final class FluxModeEnumerator {
     }
 
     private int yieldDenominator(int i, int a) {
-        return magnitude(modeFlux[i * MOST_REACTIONS + a]);
+        int value = modeFlux[i * MOST_REACTIONS + a];
+        return value < 0 ? -value : value;
     }
 
     private void listModes() {
