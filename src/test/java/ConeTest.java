@@ -11,6 +11,7 @@ import java.util.TreeMap;
 public final class ConeTest {
     private static final Check CHECK = new Check();
     private static final int MODES_FOR_ONE_OBJECT = 30;
+    private static final int CHANGES_OF_ONE_OBJECT = 150;
 
     public static void main(String[] args) {
         Draw draw = new Draw(7);
@@ -22,6 +23,9 @@ public final class ConeTest {
         }
         for (int round = 0; round < 300; round++) {
             compareModes(Network.drawn(draw, 1 + draw.below(4), 5 + draw.below(4)));
+        }
+        for (int round = 0; round < 40; round++) {
+            compareAfterChanges(draw, Network.drawn(draw, 1 + round % 4, 8));
         }
         compareMostModes();
         CHECK.finish();
@@ -40,6 +44,19 @@ public final class ConeTest {
         }
         CHECK.due("modes() of the network with the most modes", network.build().modes(), 70);
         compareModes(network);
+    }
+
+    /** Only what the network is now counts, not how it came to be so. */
+    private static void compareAfterChanges(Draw draw, Network network) {
+        FluxModeEnumerator x = network.build();
+        for (int change = 0; change < CHANGES_OF_ONE_OBJECT; change++) {
+            network.change(draw, x, CHECK);
+        }
+        List<int[]> modes = modesOf(network, 0);
+        CHECK.due(network + "modes() after changes", x.modes(), modes.size());
+        for (int i = 0; i < modes.size() && i < MODES_FOR_ONE_OBJECT; i++) {
+            CHECK.dueMode(x, i, modes.get(i));
+        }
     }
 
     private static void compareModes(Network network) {

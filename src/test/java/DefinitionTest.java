@@ -47,22 +47,10 @@ public final class DefinitionTest {
             Network network = Network.drawn(draw, 1, 4);
             FluxModeEnumerator x = network.build();
             for (int step = 0; step < 6; step++) {
-                int j = draw.below(4);
-                int kind = draw.below(3);
-                int value = draw.below(7) - 3;
-                if (kind == 0) {
-                    CHECK.due("set", x.set(0, j, value), 0);
-                    network.table[0][j] = value;
-                } else if (kind == 1) {
-                    CHECK.due("twoWay", x.twoWay(j, value), network.twoWay[j] ? 1 : 0);
-                    network.twoWay[j] = value != 0;
-                } else {
-                    CHECK.due("turn", x.turn(j, value), network.off[j] ? 0 : 1);
-                    network.off[j] = value == 0;
-                }
-                CHECK.due("set", x.set(1, j, 1), -1);
+                network.change(draw, x, CHECK);
+                CHECK.due("set", x.set(1, 0, 1), -1);
                 CHECK.due("set", x.set(0, 4, 1), -2);
-                CHECK.due("set", x.set(0, j, 4), -3);
+                CHECK.due("set", x.set(0, 0, 4), -3);
                 CHECK.due("twoWay", x.twoWay(4, 1), -1);
                 CHECK.due("turn", x.turn(-1, 0), -1);
                 DefinitionTest test = new DefinitionTest(network, x, 3);

@@ -20,6 +20,7 @@ public final class FaceTest {
         for (Constructor<?> made : face.getDeclaredConstructors()) {
             CHECK.due("constructor modifiers", made.getModifiers(), Modifier.PUBLIC);
             CHECK.due("constructor parameters", made.getParameterCount(), 2);
+            CHECK.due("constructor takes ints alone", areInts(made.getParameterTypes()) ? 1 : 0, 1);
         }
         methods(face);
         fields(face);
@@ -39,11 +40,21 @@ public final class FaceTest {
             } else {
                 CHECK.due("modifiers of " + name, method.getModifiers(), Modifier.PUBLIC);
                 CHECK.due("int answered by " + name, method.getReturnType() == int.class ? 1 : 0, 1);
+                CHECK.due("ints alone taken by " + name, areInts(method.getParameterTypes()) ? 1 : 0, 1);
                 seen.add(name + " " + method.getParameterCount());
             }
             CHECK.due("more than seven parameters: " + name, method.getParameterCount() > 7 ? 1 : 0, 0);
         }
         CHECK.due("public methods " + seen, seen.equals(FACE) ? 1 : 0, 1);
+    }
+
+    private static boolean areInts(Class<?>[] types) {
+        for (Class<?> type : types) {
+            if (type != int.class) {
+                return false;
+            }
+        }
+        return true;
     }
 
     private static void fields(Class<?> face) {

@@ -48,6 +48,25 @@ final class Network {
         return made;
     }
 
+    /** Makes one drawn change here and in the object, and looks at what the object answers to it. */
+    void change(Draw draw, FluxModeEnumerator x, Check check) {
+        int j = draw.below(reactions);
+        int kind = draw.below(3);
+        int flag = draw.below(3) - 1;
+        if (kind == 0) {
+            int s = draw.below(substances);
+            int value = draw.below(7) - 3;
+            check.due(this + "set(" + s + ", " + j + ", " + value + ")", x.set(s, j, value), 0);
+            table[s][j] = value;
+        } else if (kind == 1) {
+            check.due(this + "twoWay(" + j + ", " + flag + ")", x.twoWay(j, flag), twoWay[j] ? 1 : 0);
+            twoWay[j] = flag != 0;
+        } else {
+            check.due(this + "turn(" + j + ", " + flag + ")", x.turn(j, flag), off[j] ? 0 : 1);
+            off[j] = flag == 0;
+        }
+    }
+
     boolean isFlow(int[] v) {
         for (int j = 0; j < reactions; j++) {
             if ((off[j] && v[j] != 0) || (!twoWay[j] && v[j] < 0)) {
